@@ -850,7 +850,7 @@ public final class QuotientFile {
 
         void becomeLike(Bag other) {
             for (int i = 0; i < other.size && i < prints.length; i++) {
-                prints[i] = other.prints[i];
+                prints[i] = other.at(i);
             }
             size = other.size;
             q = other.q;

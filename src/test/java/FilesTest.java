@@ -217,6 +217,9 @@ public final class FilesTest {
         Due.is("parts(64) then", x.parts(64), -1);
         Due.prints("refused parts", x, 0, 1, 24);
         x.clears(1);
+        x.puts(1, 5);
+        Due.is("parts(24) with one print in file 1", x.parts(24), -3);
+        x.clears(1);
         x.doubles(1);
         x.doubles(1);
         Due.is("parts(0)", x.parts(0), 2);
@@ -310,6 +313,11 @@ public final class FilesTest {
                 Due.row("full of " + n, x, Double.doubleToLongBits((double) n / (1 << p)), like);
             }
         }
+        QuotientFile y = new QuotientFile();
+        y.shape(14, Due.PLAIN_14);
+        Due.putAll(y, 0, 0, 999, 1000);
+        y.full(0);
+        Due.row("full: keys 0 to 999", y, Double.doubleToLongBits(3.0 / 16384), 2);
         QuotientFile x = Due.plain6();
         Due.putAll(x, 0, 5, 5, 5);
         Due.is("full of like ones", x.full(0), Float.floatToIntBits(0.375f));

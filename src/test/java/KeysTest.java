@@ -329,5 +329,11 @@ public final class KeysTest {
         y.puts(0, 1000);
         Due.is("wrongs to 999", y.wrongs(0), 1);
         Due.row("wrongs to 999", y, 999, 0);
+        y.puts(0, 0);
+        Due.is("wrongs from 0", y.wrongs(0), 2);
+        Due.row("wrongs from 0", y, 0, 0);
+        Due.text(y, "7");
+        Due.is("wrongs of one sign", y.wrongs(0), 2);
+        Due.row("wrongs of one sign", y, 0, 1);
     }
 }

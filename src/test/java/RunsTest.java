@@ -20,6 +20,8 @@ public final class RunsTest {
         QuotientFile x = Due.plain6();
         x.load(95);
         Due.putAll(x, 0, 63, 62, 56, 1, 24, 25, 33);
+        // The other file is asked last, so that nothing which is kept of it may answer for this one.
+        x.gaps(1);
         return x;
     }
 
@@ -129,7 +131,10 @@ public final class RunsTest {
         Due.row("looks(1)", x, 0, -1, 0);
         Due.is("looks(2)", x.looks(2), -1);
         Due.row("refused looks", x, 0, -1, 0);
-        Due.putAll(x, 1, 9, 11, 11, 12, 20);
+        x.puts(1, 9);
+        Due.is("looks(1) of one print", x.looks(1), 1);
+        Due.row("looks(1) of one print", x, 1, 9, 1);
+        Due.putAll(x, 1, 11, 11, 12, 20);
         Due.is("looks(1) of like ones", x.looks(1), 2 + 4 + 4 + 4 + 1);
         Due.row("looks(1) of like ones", x, 4, 11, 4);
     }

@@ -8,8 +8,10 @@ public final class SlotsTest {
         layWrongSigns();
         layWhatCantLie();
         layLargeFiles();
+        layAllDigits();
         setWords();
         setWhatCantLie();
+        setLargerFiles();
         Due.finish();
     }
 
@@ -71,6 +73,12 @@ public final class SlotsTest {
         Due.is("word(1, 0): half of slot 6", y.word(1, 0), 0x9000000000000000L);
         Due.is("word(1, 1): the other half", y.word(1, 1), 42);
         Due.noWord(y, 1, 2);
+        QuotientFile z = new QuotientFile();
+        z.shape(9, (1 << 23) + 1);
+        z.doubles(0);
+        Due.putAll(z, 0, 31, 8 << 5 | 21);
+        Due.is("slot 0 in word 0 alone", z.word(0, 0), 31 * 8 + 1);
+        Due.is("slot 8 in word 1 alone", z.word(0, 1), 21 * 8 + 1);
     }
 
     private static void wordsBySize() {
@@ -221,5 +229,44 @@ public final class SlotsTest {
         Due.is("sets(-1, 0, ..)", x.sets(-1, 0, 0, 0), -1);
         Due.row("refused sets", x, 6, 1);
         Due.prints("refused sets", x, 0, 6 << 7 | 85);
+    }
+
+    private static void layAllDigits() {
+        QuotientFile x = new QuotientFile();
+        x.shape(14, Due.PLAIN_14);
+        String digits = "0123456789abcdef";
+        for (int i = 0; i < 16; i++) {
+            Due.text(x, "3" + "10" + digits.charAt(i) + digits.charAt(15 - i) + "0000".repeat(7));
+            Due.is("lays: digit " + i, x.lays(0), 1);
+            Due.prints("lays: digit " + i, x, 0, 16 * i + 15 - i);
+        }
+        String[] wrong = {"g", "`", "/", ":", "A", "F", "@", " ", "~"};
+        for (String sign : wrong) {
+            Due.text(x, "310" + sign + "0" + "0000".repeat(7));
+            Due.is("lays: sign " + sign, x.lays(0), -4);
+        }
+    }
+
+    private static void setLargerFiles() {
+        for (int q = 3; q <= 6; q++) {
+            QuotientFile x = new QuotientFile();
+            x.shape(14, Due.PLAIN_14);
+            for (int i = 3; i < q; i++) {
+                x.doubles(0);
+            }
+            int bits = 14 - q + 3;
+            int last = (1 << q) - 1;
+            int at = last * bits;
+            x.slot(1, 0);
+            // The mark of the last slot's home alone: a print with remainder 0 there.
+            int high = at % 64 >= 32 ? 1 << (at % 64 - 32) : 0;
+            int low = at % 64 < 32 ? 1 << at % 64 : 0;
+            Due.is("sets the last slot of Q " + q, x.sets(0, at / 64, high, low), 1);
+            Due.prints("sets the last slot of Q " + q, x, 0, last << (14 - q));
+            Due.is("Q stays", x.count(0, 2), q);
+            Due.is("sets the last slot of Q " + q, x.sets(0, at / 64, high, low), -2);
+            Due.is("sets slot 0 too", x.sets(0, 0, 0, 8 * 5 + 1), 2);
+            Due.prints("sets slot 0 too", x, 0, 5, last << (14 - q));
+        }
     }
 }
