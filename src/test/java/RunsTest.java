@@ -20,7 +20,9 @@ public final class RunsTest {
         QuotientFile x = Due.plain6();
         x.load(95);
         Due.putAll(x, 0, 63, 62, 56, 1, 24, 25, 33);
-        // The other file is asked last, so that nothing which is kept of it may answer for this one.
+        // The other file is used last, so that nothing which is kept of it may answer for this one.
+        Due.putAll(x, 1, 40, 40, 40, 40, 40, 40, 40);
+        x.clears(1);
         x.gaps(1);
         return x;
     }

@@ -76,8 +76,8 @@ public final class SlotsTest {
         QuotientFile z = new QuotientFile();
         z.shape(9, (1 << 23) + 1);
         z.doubles(0);
-        Due.putAll(z, 0, 31, 8 << 5 | 21);
-        Due.is("slot 0 in word 0 alone", z.word(0, 0), 31 * 8 + 1);
+        Due.putAll(z, 0, 10, 8 << 5 | 21);
+        Due.is("slot 0 in word 0 alone", z.word(0, 0), 10 * 8 + 1);
         Due.is("slot 8 in word 1 alone", z.word(0, 1), 21 * 8 + 1);
     }
 
