@@ -154,7 +154,7 @@ final class Model {
         return lie(prints(file), p, q[file]);
     }
 
-    private boolean[] bits(int[] cells, int q) {
+    private static boolean[] bits(int[] cells, int p, int q) {
         int width = p - q + 3;
         int words = (cells.length * width + 63) / 64;
         boolean[] bits = new boolean[64 * words];
@@ -440,12 +440,29 @@ final class Model {
         if (noWord(file, k)) {
             throw new NoSuchElementException();
         }
-        boolean[] bits = bits(cells(file), q[file]);
+        return word(bits(cells(file), p, q[file]), k);
+    }
+
+    private static long word(boolean[] bits, int k) {
         long word = 0;
         for (int i = 63; i >= 0; i--) {
             word = word * 2 + (bits[64 * k + i] ? 1 : 0);
         }
         return word;
+    }
+
+    /** The words of a file with these prints, rising. */
+    static long[] words(int[] prints, int p, int q) {
+        List<Integer> all = new ArrayList<>();
+        for (int print : prints) {
+            all.add(print);
+        }
+        boolean[] bits = bits(cells(all, p, q), p, q);
+        long[] words = new long[bits.length / 64];
+        for (int k = 0; k < words.length; k++) {
+            words[k] = word(bits, k);
+        }
+        return words;
     }
 
     int lays(int file) {
@@ -486,7 +503,7 @@ final class Model {
         if (word == word(file, k)) {
             return -2;
         }
-        boolean[] bits = bits(cells(file), q[file]);
+        boolean[] bits = bits(cells(file), p, q[file]);
         for (int i = 0; i < 64; i++) {
             bits[64 * k + i] = (word >>> i) % 2 != 0;
         }

@@ -2,8 +2,11 @@ import java.util.NoSuchElementException;
 
 /** Long runs of calls, drawn by a fixed rule, on the program and on the Model: all answers must be like. */
 public final class ModelTest {
-    private static final int RUNS = 1500;
-    private static final int CALLS = 250;
+    private static final int RUNS = 5000;
+    /** Behind this many calls an object may answer what it likes. */
+    private static final int CALLS = 512;
+    /** The most calls of one step: a text of 80 signs, two calls, a ROW of 64 numbers and the state, and these at the end. */
+    private static final int MOST_OF_A_STEP = 22 + 2 + 2 * (64 + 6);
     private static final long THROWN = Long.MIN_VALUE + 7;
     private static final int[] EDGES = {-1, 0, 1, 2, 3, 7, 8, 15, 16, 31, 32, 63, 64, 1023, 1024, 9999, 10000, 16383,
         16384, 99999, 100000, Integer.MAX_VALUE, Integer.MIN_VALUE};
@@ -13,6 +16,7 @@ public final class ModelTest {
     private Model m;
     private int keySpan;
     private int putsOften;
+    private int used = 0;
 
     public static void main(String[] args) {
         for (int run = 0; run < RUNS; run++) {
@@ -46,15 +50,32 @@ public final class ModelTest {
         if (draw(3) > 0) {
             shape();
         }
-        for (int i = 0; i < CALLS; i++) {
-            String call = "run " + run + ", call " + i + ", ";
+        if (draw(2) == 0) {
+            fill(run);
+        }
+        while (used + MOST_OF_A_STEP <= CALLS) {
+            String call = "run " + run + ", behind " + used + " calls, ";
             int which = draw(4) < putsOften ? 3 + draw(3) / 2 : draw(41);
+            used++;
             one(call + which, which);
-            rows(call + which);
+            if (draw(3) == 0) {
+                rows(call + which);
+            }
+        }
+        rows("run " + run + ", its end");
+    }
+
+    private void fill(int run) {
+        int file = draw(2);
+        for (int i = draw(64); i > 0; i--) {
+            int key = key();
+            used++;
+            Due.is("run " + run + ", fill", x.puts(file, key), m.puts(file, key));
         }
     }
 
     private void shape() {
+        used++;
         int p = draw(10) == 0 ? number(16) : 6 + draw(9);
         int mult = draw(2) == 0 ? (1 << (32 - Math.floorMod(p, 32))) + 1 : draw(Integer.MAX_VALUE) - draw(Integer.MAX_VALUE);
         mult = draw(8) == 0 ? mult : mult | 1;
@@ -62,6 +83,7 @@ public final class ModelTest {
     }
 
     private void rows(String call) {
+        used += 6 + m.count(0, 9);
         Due.is(call + ": numbers of the row", x.count(0, 9), m.count(0, 9));
         for (int i = 0; i < m.count(0, 9); i++) {
             Due.is(call + ": row(" + i + ")", x.row(i), m.row(i));
@@ -90,6 +112,7 @@ public final class ModelTest {
     }
 
     private void tellText(String signs) {
+        used += 2 + (signs.length() + 3) / 4;
         Due.is("end(0)", x.end(0), m.end(0));
         for (int i = 0; i < signs.length(); i += 4) {
             int v = 0;
