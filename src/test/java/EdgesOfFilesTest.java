@@ -386,6 +386,8 @@ public final class EdgesOfFilesTest {
         Start.of(6).file(1, 3, 5).when("FILE 0 is empty", x -> x.common()).answers(0).row(0, 1, 0).holds();
         Start.of(6).file(0, 3, 5, 6).file(1, 3, 5, 6, 7).when("a part", x -> x.common()).answers(2).row(2, 1, 0).holds();
         Start.of(6).file(0, 3, 5, 6, 7).file(1, 3, 5, 7).when("a part of it", x -> x.common()).answers(2).row(2, 0, 1).holds();
+        Start.of(6).file(0, 3, 5).file(1, 3, 0, 0).when("none of both", x -> x.common()).answers(0).row(0, 0, 0).holds();
+        Start.of(6).file(0, 3, 0, 0).file(1, 3, 5).when("none of both", x -> x.common()).answers(0).row(0, 0, 0).holds();
         Start.of(6).file(0, 3, 5, 6).file(1, 3, 6, 7).when("neither", x -> x.common()).answers(1).row(1, 0, 0).holds();
         Start.of(14).file(0, 6, Start.upTo(63)).file(1, 6, Start.upTo(63)).when("63 and 63", x -> x.common()).answers(63)
             .row(63, 1, 1).holds();
@@ -425,7 +427,8 @@ public final class EdgesOfFilesTest {
 
     private static void fullOfKeys() {
         Bound.says(34, "how many KEYS of 0 .. 999 have a PRINT that is in it");
-        int[][] due = {{0, 1}, {999, 1}, {1000, 0}, {16383, 0}};
+        // -1 times MULT has the bits of 16382, but is no key.
+        int[][] due = {{0, 1}, {999, 1}, {1000, 0}, {16382, 0}, {16383, 0}};
         for (int[] d : due) {
             Start.of(14).file(0, 3, d[0]).when("print " + d[0], x -> x.full(0)).answers(0x3e000000)
                 .row(0x3f10000000000000L, d[1]).holds();

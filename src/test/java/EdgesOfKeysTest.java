@@ -280,6 +280,8 @@ public final class EdgesOfKeysTest {
         Start.of(14).when("P 14: twin(16384)", x -> x.twin(16384)).stays(0);
         Start.of(14).when("P 14: twin(26383)", x -> x.twin(26383)).stays(9999);
         Start.of(14).when("P 14: twin(26384)", x -> x.twin(26384)).stays(-2);
+        // -1 times MULT has the bits of 16382 by P 14, but is no key.
+        Start.of(14).when("P 14: twin(16382)", x -> x.twin(16382)).stays(-2);
         // By P 13, 9999 and 1807 are alike, and no others below 10000.
         Start.of(13).when("P 13: twin(1807)", x -> x.twin(1807)).stays(9999);
         Start.of(13).when("P 13: twin(1808)", x -> x.twin(1808)).stays(-2);
@@ -336,6 +338,11 @@ public final class EdgesOfKeysTest {
         Bound.says(9, "~ ahead of it: it is taken out, else PUT IN");
         nine("~9").when("keys(0) of ~9", x -> x.keys(0)).answers(1).row(0, 0).signs(0).file(0, 3).holds();
         nine("~00073").when("keys(0) of ~00073", x -> x.keys(0)).answers(1).row(0, 0).signs(0).file(0, 3).holds();
+        nine("5,~9").when("keys(0) twice, other texts", x -> {
+            x.keys(0);
+            Due.text(x, "6");
+            return x.keys(0);
+        }).answers(1).row(0, 2).signs(0).file(0, 3, 5, 6).holds();
         Bound.says(9, "they are done one by one");
         nine("5,~5").when("keys(0) of 5,~5", x -> x.keys(0)).answers(2).row(0, 1).signs(0).holds();
         nine("~9,9").when("keys(0) of ~9,9", x -> x.keys(0)).answers(2).row(0, 1).signs(0).holds();
@@ -462,6 +469,7 @@ public final class EdgesOfKeysTest {
         Start.of(14).file(0, 3, 1000).text("").when("key 1000 alone", x -> x.wrongs(0)).answers(0).row(-1, 0).holds();
         Start.of(14).file(0, 3, 999).text("").when("key 999 alone", x -> x.wrongs(0)).answers(1).row(999, 0).holds();
         Start.of(14).file(0, 3, 0).text("").when("key 0 alone", x -> x.wrongs(0)).answers(1).row(0, 0).holds();
+        Start.of(14).file(0, 3, 16382).text("").when("as -1 would be", x -> x.wrongs(0)).answers(0).row(-1, 0).holds();
     }
 
     private static void wrongsOfLikeKeys() {
