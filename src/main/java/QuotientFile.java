@@ -813,10 +813,10 @@ public final class QuotientFile {
 
         /** Where the print comes, behind all like ones; NONE if the row can't hold it. */
         int insert(int print) {
-            if (size < 0 || size >= prints.length) {
+            int place = below(print + 1);
+            if (place < 0 || place > size || size >= prints.length) {
                 return NONE;
             }
-            int place = below(print + 1);
             for (int i = size; i > place; i--) {
                 prints[i] = prints[i - 1];
             }
@@ -829,8 +829,7 @@ public final class QuotientFile {
             if (!holds(print)) {
                 return false;
             }
-            int place = below(print);
-            for (int i = place; i + 1 < size; i++) {
+            for (int i = Math.max(0, below(print)); i + 1 < size && i + 1 < prints.length; i++) {
                 prints[i] = prints[i + 1];
             }
             size--;

@@ -27,7 +27,10 @@ public final class FaceTest {
         namesOfPrivateMethods();
         fields();
         nestedClasses();
-        source();
+        String source = Files.readString(Path.of("src/main/java/QuotientFile.java"));
+        words(source);
+        objectsMade(source);
+        lengthsOfMethods(source);
         Due.finish();
     }
 
@@ -99,12 +102,12 @@ public final class FaceTest {
         Due.is("some twelve classes", nested.length < 12, true);
         for (Class<?> c : nested) {
             Due.is("static: " + c, Modifier.isStatic(c.getModifiers()), true);
+            Due.is("some twenty fields: " + c, c.getDeclaredFields().length <= 20, true);
             Due.is("open: " + c, Modifier.isPublic(c.getModifiers()) || Modifier.isProtected(c.getModifiers()), false);
         }
     }
 
-    private static void source() throws IOException {
-        String source = Files.readString(Path.of("src/main/java/QuotientFile.java"));
+    private static void words(String source) {
         String[] ruledOut = {"->", "::", "finally", "synchronized", "assert ", "catch", "static {", "package ",
             "Random", "System.", "Thread", "Float.", "Double.", "Exact(", "NaN", " var ", "lambda"};
         for (String word : ruledOut) {
@@ -117,6 +120,34 @@ public final class FaceTest {
         }
         Due.is("imports", imports, 1);
         Due.is("the one import", source.contains("import java.util.NoSuchElementException;"), true);
+    }
+
+    /** Rows and helpers are made once with the object; a call makes nothing but what it throws. */
+    private static void objectsMade(String source) {
+        int from = source.indexOf("    public QuotientFile() {");
+        int to = source.indexOf("\n    }\n", from);
+        String calls = source.substring(0, from) + source.substring(to);
+        for (String line : calls.split("\n")) {
+            String told = line.trim();
+            boolean row = told.matches("private final \\w+\\[\\] \\w+ = new \\w+\\[MOST_\\w+\\];");
+            boolean thrown = told.matches("throw new NoSuchElementException\\(\"[^\"]*\"\\);");
+            boolean made = told.matches(".*\\bnew \\w+[(\\[<].*");
+            Due.is("makes an object: " + told, made && !row && !thrown, false);
+        }
+    }
+
+    private static void lengthsOfMethods(String source) {
+        List<String> lines = Arrays.asList(source.split("\n"));
+        int methods = 0;
+        for (int i = 0; i < lines.size(); i++) {
+            if (lines.get(i).matches("( {4}| {8}(?!if|for|while|switch))[a-z].*\\(.*\\{")) {
+                methods++;
+                String end = lines.get(i).replaceAll("\\S.*", "}");
+                int length = lines.subList(i, lines.size()).indexOf(end) + 1;
+                Due.is("some sixty lines: " + lines.get(i), length > 2 && length <= 60, true);
+            }
+        }
+        Due.is("methods were found", methods > FACE.length, true);
     }
 
     private static boolean isAbove(int sign) {
